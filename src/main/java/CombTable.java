@@ -730,15 +730,15 @@ public final class CombTable {
         }
 
         int openingOf(int kind) {
-            return hasKind(kind) ? opening[kind] : 0;
+            return kind >= 0 && kind < KINDS ? opening[kind] : 0;
         }
 
         int doingOf(int kind) {
-            return hasKind(kind) ? does[kind] : 0;
+            return kind >= 0 && kind < KINDS ? does[kind] : 0;
         }
 
         int spanOf(int kind) {
-            return hasKind(kind) ? spans[kind] : 0;
+            return kind >= 0 && kind < KINDS ? spans[kind] : 0;
         }
 
         int tell(int kind, int what) {
@@ -753,7 +753,7 @@ public final class CombTable {
         /** How far ahead of WORD t the one stands that it ANSWERS if that WHO says it. */
         int reach(int who, int t) {
             if (byRanks) {
-                return hasWho(who) ? ranks[who] : 1;
+                return who >= 0 && who < PEOPLE ? ranks[who] : 1;
             }
             int turn = combs > 0 && t >= 0 ? t % combs : 0;
             return turn < COMBS ? comb[turn] : 1;
@@ -998,11 +998,10 @@ public final class CombTable {
             if (does == Table.GRANTS || does == Table.REFUSES) {
                 return states[t] == ASKED ? 0 : 5;
             }
-            return does >= Table.KEEPS ? promiseFlaw(t, who, does) : 0;
-        }
-
-        private int promiseFlaw(int t, int who, int does) {
-            if (!has(t) || states[t] != PROMISE || size > dueOf(t)) {
+            if (does < Table.KEEPS) {
+                return 0;
+            }
+            if (states[t] != PROMISE || size > dueOf(t)) {
                 return 5;
             }
             int owner = does == Table.FREES ? promisee(t) : speakers[t];
@@ -1132,7 +1131,7 @@ public final class CombTable {
         }
 
         private int dueOf(int t) {
-            return has(t) ? t + table.spanOf(sorts[t]) : NONE;
+            return t >= 0 && t < size ? t + table.spanOf(sorts[t]) : NONE;
         }
 
         int tell(int t, int what) {
@@ -1370,30 +1369,28 @@ public final class CombTable {
             return readCond(tape, table, 1) && tape.closes();
         }
 
+        /** A COND: an 'or' waits until what stands on its right side is read, all its 'and' too. */
         private boolean readCond(Tape tape, Table table, int level) {
-            if (!readAll(tape, table, level)) {
-                return false;
-            }
-            for (int i = 0; i < ONES && tape.isTerm(Term.OR); i++) {
-                tape.advance();
-                if (!readAll(tape, table, level)) {
-                    return false;
-                }
-                put(OR, 0, 0);
-            }
-            return true;
-        }
-
-        private boolean readAll(Tape tape, Table table, int level) {
+            boolean waiting = false;
             if (!readOne(tape, table, level)) {
                 return false;
             }
-            for (int i = 0; i < ONES && tape.isTerm(Term.AND); i++) {
+            for (int i = 0; i < ONES && (tape.isTerm(Term.AND) || tape.isTerm(Term.OR)); i++) {
+                boolean joins = tape.isTerm(Term.AND);
+                if (!joins && waiting) {
+                    put(OR, 0, 0);
+                }
+                waiting = waiting || !joins;
                 tape.advance();
                 if (!readOne(tape, table, level)) {
                     return false;
                 }
-                put(AND, 0, 0);
+                if (joins) {
+                    put(AND, 0, 0);
+                }
+            }
+            if (waiting) {
+                put(OR, 0, 0);
             }
             return true;
         }
