@@ -108,6 +108,15 @@ final class FaultsTest {
         for (String word : reserved) {
             table("who " + word + " 1;", 4, 1);
             table("kind " + word + ";", 5, 1);
+            boolean comes = "opens begins asks refuses keeps breaks frees".contains(word) && word.length() > 3;
+            if (!comes && !word.equals("grants")) {
+                table("kind p " + word + ";", 7, 1);
+                table("kind p opens " + word + ";", 13, 1);
+                talk(word + " p;", 0, 1, 0);
+                talk("a " + word + ";", 2, 1, 0);
+                sentence("by " + word, 3, 1);
+                sentence("is " + word, 3, 1);
+            }
         }
     }
 

@@ -584,6 +584,31 @@ final class PromisesTest {
         is("29: together they can", 2, z.road(1, 5, 4));
     }
 
+    /** The farthest that a WORD may ANSWER: the next one, six behind, is the last that does. */
+    private static void farthest() {
+        String table = "who a 1;who b 1;who c 6;kind p opens asks;kind q grants 9;kind v begins;kind s keeps;"
+            + "may q p;may s q;comb 6 1 1 1 1 1;";
+        CombTable x = at(table, "a p;b v;a v;b v;a v;b v;");
+        is("29: six behind", 1, x.road(0, 2, 2));
+        is("31: six behind", 1, x.game(1 << C, 0, 2, 2));
+        x.say(A, 2);
+        is("29: seven behind", NONE, x.road(0, 2, 2));
+        is("31: seven behind", NONE, x.game(1 << C, 0, 2, 2));
+        String talk = "a p;b v;a v;b v;a v;b v;c q;b v;a v;b v;a v;b v;";
+        CombTable y = at(table, talk);
+        is("29: kept, six behind", 1, y.road(6, 5, 2));
+        y.say(A, 2);
+        is("29: kept, seven behind", NONE, y.road(6, 5, 2));
+        CombTable z = at(table.replace("grants 9", "grants 6"), talk);
+        is("29: kept at N", 1, z.road(6, 5, 2));
+        is("29: LAPSED behind it", 2, z.road(6, 8, 2));
+        CombTable late = at(table.replace("grants 9", "grants 5"), talk);
+        is("29: behind N", NONE, late.road(6, 5, 2));
+        is("29: but LAPSED", 1, late.road(6, 8, 2));
+        CombTable ranks = at(table + "ranks;", "a p;b v;a v;b v;a v;b v;");
+        is("29: six behind by RANK", 1, ranks.road(0, 2, 2));
+    }
+
     private static void unlikes() {
         CombTable x = Due.at(FREE);
         is("33: nothing is kept there", -3, x.unlike(0, 2));
@@ -717,6 +742,7 @@ final class PromisesTest {
         drawing();
         roads();
         games();
+        farthest();
         unlikes();
         sentences();
         images();
