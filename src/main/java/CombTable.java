@@ -33,9 +33,9 @@ public final class CombTable {
         tape = new Tape();
         table = new Table();
         spareTable = new Table();
-        talk = new Talk(Talk.MOST, table);
-        trial = new Talk(Talk.MOST, table);
-        otherTrial = new Talk(ROAD_MOST, table);
+        talk = new Talk(Talk.MOST);
+        trial = new Talk(Talk.MOST);
+        otherTrial = new Talk(ROAD_MOST);
         minutes = new Minutes();
         spareMinutes = new Minutes();
         sentence = new Sentence();
@@ -299,8 +299,8 @@ public final class CombTable {
         if (Search.tooMany(table.people * table.kinds, n)) {
             return TOO_MANY;
         }
-        search.aim(talk, w, state);
-        return search.forcedBy(side, n);
+        search.aim(w, state);
+        return search.forcedBy(talk, side, n);
     }
 
     public int found(int i) {
@@ -319,8 +319,7 @@ public final class CombTable {
         }
         trial.begin(table);
         otherTrial.begin(image.table);
-        search.compare(trial, otherTrial, people, kinds);
-        int length = search.difference(n);
+        int length = search.difference(trial, otherTrial, n);
         if (length > 0) {
             search.keepFound(length);
         }
@@ -397,8 +396,8 @@ public final class CombTable {
         if (Search.tooMany(table.people * table.kinds, n)) {
             return TOO_MANY;
         }
-        search.aim(talk, w, state);
-        return search.roadWithout(silent, n);
+        search.aim(w, state);
+        return search.roadWithout(talk, silent, n);
     }
 
     private static boolean isState(int state) {
@@ -936,8 +935,8 @@ public final class CombTable {
         /** The STATE of each WORD, but that a LAPSED one stands as open: see stateOf. */
         final int[] states;
 
-        Talk(int most, Table at) {
-            table = at;
+        Talk(int most) {
+            table = new Table();
             speakers = new int[most];
             sorts = new int[most];
             heard = new int[most];
@@ -954,7 +953,7 @@ public final class CombTable {
 
         void copy(Talk from) {
             begin(from.table);
-            for (int t = 0; t < from.size; t++) {
+            for (int t = 0; t < from.size && t < from.speakers.length; t++) {
                 add(from.speakers[t], from.sorts[t]);
             }
         }
@@ -1473,14 +1472,10 @@ public final class CombTable {
         static final int WAYS_MOST = 300000;
         static final int CODE = 16;
 
-        Talk talk;
-        Talk other;
         int aimed;
         int state;
         int silent;
         int side;
-        int people;
-        int kinds;
         final int[] path = new int[ROAD_MOST];
         final int[] found = new int[ROAD_MOST];
         int foundSize;
@@ -1506,19 +1501,16 @@ public final class CombTable {
             return i >= 0 && i < foundSize && i < ROAD_MOST ? found[i] : NONE;
         }
 
-        void aim(Talk from, int w, int wanted) {
-            talk = from;
+        void aim(int w, int wanted) {
             aimed = w;
             state = wanted;
-            people = from.table.people;
-            kinds = from.table.kinds;
         }
 
         /** The fewest WORDS by which the aim is had if one WHO (NONE: nobody) says nothing. */
-        int roadWithout(int who, int most) {
+        int roadWithout(Talk talk, int who, int most) {
             silent = who;
             for (int n = 0; n <= most; n++) {
-                if (leads(0, n)) {
+                if (leads(talk, 0, n)) {
                     return n;
                 }
             }
@@ -1526,20 +1518,20 @@ public final class CombTable {
         }
 
         /** Whether the aim is had behind just so many more WORDS; no fewer have been enough. */
-        private boolean leads(int at, int more) {
+        private boolean leads(Talk talk, int at, int more) {
             if (more <= 0 || at >= ROAD_MOST) {
                 return talk.isSo(aimed, state);
             }
             if (!talk.mayCome(aimed, state, more)) {
                 return false;
             }
-            for (int who = 0; who < people; who++) {
+            for (int who = 0; who < talk.table.people; who++) {
                 int bits = who == silent ? 0 : talk.choices(who);
-                for (int kind = 0; kind < kinds; kind++) {
+                for (int kind = 0; kind < talk.table.kinds; kind++) {
                     if ((bits >> kind & 1) != 0) {
                         path[at] = CODE * who + kind;
                         talk.add(who, kind);
-                        boolean there = leads(at + 1, more - 1);
+                        boolean there = leads(talk, at + 1, more - 1);
                         talk.takeBack();
                         if (there) {
                             return true;
@@ -1551,10 +1543,10 @@ public final class CombTable {
         }
 
         /** The fewest WORDS in which the one side can have the aim. */
-        int forcedBy(int oneSide, int most) {
+        int forcedBy(Talk talk, int oneSide, int most) {
             side = oneSide;
             for (int n = 0; n <= most; n++) {
-                if (forces(n, true)) {
+                if (forces(talk, n, true)) {
                     return n;
                 }
             }
@@ -1562,7 +1554,7 @@ public final class CombTable {
         }
 
         /** Whether the one side has the aim in so many more WORDS at most, whatever the others say. */
-        private boolean forces(int more, boolean ownTurn) {
+        private boolean forces(Talk talk, int more, boolean ownTurn) {
             if (talk.isSo(aimed, state)) {
                 return true;
             }
@@ -1570,14 +1562,14 @@ public final class CombTable {
                 return false;
             }
             boolean spoken = false;
-            for (int who = 0; who < people; who++) {
+            for (int who = 0; who < talk.table.people; who++) {
                 boolean own = (side >> who & 1) != 0;
                 int bits = own == ownTurn ? talk.choices(who) : 0;
-                for (int kind = 0; kind < kinds; kind++) {
+                for (int kind = 0; kind < talk.table.kinds; kind++) {
                     if ((bits >> kind & 1) != 0) {
                         spoken = true;
                         talk.add(who, kind);
-                        boolean had = forces(more - 1, !ownTurn);
+                        boolean had = forces(talk, more - 1, !ownTurn);
                         talk.takeBack();
                         if (had == ownTurn) {
                             return had;
@@ -1588,17 +1580,10 @@ public final class CombTable {
             return spoken && !ownTurn;
         }
 
-        void compare(Talk one, Talk another, int mostPeople, int mostKinds) {
-            talk = one;
-            other = another;
-            people = mostPeople;
-            kinds = mostKinds;
-        }
-
         /** How many WORDS the shortest TALK has that just one of the two TABLES has; 0: none. */
-        int difference(int most) {
+        int difference(Talk talk, Talk other, int most) {
             for (int n = 1; n <= most; n++) {
-                if (differs(0, n)) {
+                if (differs(talk, other, 0, n)) {
                     return n;
                 }
             }
@@ -1606,10 +1591,12 @@ public final class CombTable {
         }
 
         /** Whether they differ in the last of just so many more WORDS; in fewer they do not. */
-        private boolean differs(int at, int more) {
+        private boolean differs(Talk talk, Talk other, int at, int more) {
             if (at >= ROAD_MOST) {
                 return false;
             }
+            int people = Math.max(talk.table.people, other.table.people);
+            int kinds = Math.max(talk.table.kinds, other.table.kinds);
             for (int who = 0; who < people; who++) {
                 for (int kind = 0; kind < kinds; kind++) {
                     boolean here = talk.flaw(who, kind) == 0;
@@ -1621,7 +1608,7 @@ public final class CombTable {
                     } else if (here) {
                         talk.add(who, kind);
                         other.add(who, kind);
-                        boolean apart = differs(at + 1, more - 1);
+                        boolean apart = differs(talk, other, at + 1, more - 1);
                         talk.takeBack();
                         other.takeBack();
                         if (apart) {
@@ -1639,7 +1626,6 @@ public final class CombTable {
         static final int MOST = 20000;
         static final int MOST_TORN = 100000;
 
-        Talk talk;
         int size;
         final int[] whos = new int[Minutes.MOST];
         final int[] sorts = new int[Minutes.MOST];
@@ -1654,8 +1640,8 @@ public final class CombTable {
         final int[] sureStates = new int[Minutes.MOST];
 
         /** How many WHOLES there are by 0, 1 or 2; what is sure of them is kept. */
-        int all(Minutes minutes, Talk empty, int by) {
-            start(empty, true);
+        int all(Minutes minutes, Talk talk, int by) {
+            start(true);
             for (int t = 0; t < Minutes.MOST; t++) {
                 sureWhos[t] = 0;
                 sureKinds[t] = 0;
@@ -1667,7 +1653,7 @@ public final class CombTable {
                 if (by == 2) {
                     exchange(i);
                 }
-                fill(0);
+                fill(talk, 0);
             }
             sureSize = filled > 0 ? size : 0;
             return filled;
@@ -1686,24 +1672,24 @@ public final class CombTable {
         }
 
         /** The WORDS without which more could have been, as bits; NONE: there are no WHOLES. */
-        int hanging(Minutes minutes, Talk empty) {
-            start(empty, false);
+        int hanging(Minutes minutes, Talk talk) {
+            start(false);
             take(minutes, NONE);
-            fill(0);
+            fill(talk, 0);
             int whole = filled;
             if (whole == 0) {
                 return NONE;
             }
             int bits = 0;
             for (int t = 0; t < minutes.size; t++) {
-                if (minutes.whoAt(t) != NONE && minutes.kindAt(t) != NONE && looser(minutes, t, whole)) {
+                if (minutes.whoAt(t) != NONE && minutes.kindAt(t) != NONE && looser(minutes, talk, t, whole)) {
                     bits |= 1 << t;
                 }
             }
             return bits;
         }
 
-        private boolean looser(Minutes minutes, int t, int whole) {
+        private boolean looser(Minutes minutes, Talk talk, int t, int whole) {
             take(minutes, NONE);
             if (t >= 0 && t < size) {
                 whos[t] = NONE;
@@ -1711,12 +1697,11 @@ public final class CombTable {
             }
             filled = 0;
             enough = whole;
-            fill(0);
+            fill(talk, 0);
             return filled > whole;
         }
 
-        private void start(Talk empty, boolean tells) {
-            talk = empty;
+        private void start(boolean tells) {
             telling = tells;
             size = 0;
             filled = 0;
@@ -1747,11 +1732,11 @@ public final class CombTable {
             sorts[t + 1] = kind;
         }
 
-        private void fill(int at) {
+        private void fill(Talk talk, int at) {
             if (at >= size || at >= Minutes.MOST) {
                 filled++;
                 if (telling) {
-                    markStates();
+                    markStates(talk);
                 }
                 return;
             }
@@ -1762,7 +1747,7 @@ public final class CombTable {
                     if (filled <= enough && talk.flaw(who, kind) == 0) {
                         int ahead = filled;
                         talk.add(who, kind);
-                        fill(at + 1);
+                        fill(talk, at + 1);
                         talk.takeBack();
                         if (telling && filled > ahead) {
                             sureWhos[at] |= 1 << who;
@@ -1773,7 +1758,7 @@ public final class CombTable {
             }
         }
 
-        private void markStates() {
+        private void markStates(Talk talk) {
             for (int t = 0; t < talk.size && t < Minutes.MOST; t++) {
                 sureStates[t] |= 1 << talk.stateOf(t);
             }
@@ -1785,8 +1770,6 @@ public final class CombTable {
         static final int MENDED_MOST = 14;
         static final int ORDERED_MOST = 7;
 
-        Minutes minutes;
-        Talk talk;
         /** The fewest WORDS left out so far and which ones, as bits; what mended() tells. */
         int fewest;
         int outs;
@@ -1797,17 +1780,15 @@ public final class CombTable {
         final int[] first = new int[ORDERED_MOST];
         int firstSize;
 
-        int leaveOut(Minutes told, Talk empty) {
-            minutes = told;
-            talk = empty;
+        int leaveOut(Minutes minutes, Talk talk) {
             fewest = MENDED_MOST + 1;
             outs = 0;
-            mendFrom(0, 0, 0);
+            mendFrom(minutes, talk, 0, 0, 0);
             leftOut = outs;
             return fewest;
         }
 
-        private void mendFrom(int at, int gone, int bits) {
+        private void mendFrom(Minutes minutes, Talk talk, int at, int gone, int bits) {
             if (gone > fewest) {
                 return;
             }
@@ -1822,21 +1803,19 @@ public final class CombTable {
             int kind = minutes.kindAt(at);
             if (talk.flaw(who, kind) == 0) {
                 talk.add(who, kind);
-                mendFrom(at + 1, gone, bits);
+                mendFrom(minutes, talk, at + 1, gone, bits);
                 talk.takeBack();
             }
-            mendFrom(at + 1, gone + 1, bits | 1 << at);
+            mendFrom(minutes, talk, at + 1, gone + 1, bits | 1 << at);
         }
 
-        int arrange(Minutes told, Talk empty) {
-            minutes = told;
-            talk = empty;
+        int arrange(Minutes minutes, Talk talk) {
             orders = 0;
-            orderFrom(0, 0);
+            orderFrom(minutes, talk, 0, 0);
             return orders;
         }
 
-        private void orderFrom(int at, int used) {
+        private void orderFrom(Minutes minutes, Talk talk, int at, int used) {
             if (at >= minutes.size || at >= ORDERED_MOST) {
                 if (orders == 0) {
                     System.arraycopy(row, 0, first, 0, ORDERED_MOST);
@@ -1851,7 +1830,7 @@ public final class CombTable {
                 if ((used >> t & 1) == 0 && talk.flaw(who, kind) == 0) {
                     row[at] = t;
                     talk.add(who, kind);
-                    orderFrom(at + 1, used | 1 << t);
+                    orderFrom(minutes, talk, at + 1, used | 1 << t);
                     talk.takeBack();
                 }
             }

@@ -395,6 +395,12 @@ final class PromisesTest {
         is("22: hangs on it", 2, x.hangs());
         is("20: 100000 ways", 5, Due.minutes(x, "a any;a any;a any;a any;a any;"));
         is("20: TOO MANY", -2, x.wholes(0));
+        CombTable pair = Due.at(ten + "who b 1;");
+        is("20: 20000 ways", 4, Due.minutes(pair, "any any;a any;a any;a any;"));
+        is("20: are not too many", 20000, pair.wholes(0));
+        is("22: 400000 are TOO MANY", -2, pair.hangs());
+        is("20: 40000 ways", 4, Due.minutes(pair, "any any;any any;a any;a any;"));
+        is("20: TOO MANY", -2, pair.wholes(0));
         CombTable two = Due.at(TABLE);
         is("22: minutes", 3, Due.minutes(two, "a ask;b hm;c yes;"));
         is("22: WORD 0 alone could not have been another", 6, two.hangs());
@@ -506,6 +512,7 @@ final class PromisesTest {
         is("29: nor a ROAD on", NONE, y.road(399, 1, 1));
         is("11: undo", 399, y.undo());
         is("27: it ends with 400 WORDS", 1, y.drawn(20, 1));
+        is("27: 400 at once", 400, Due.at(FREE).drawn(400, 9));
         CombTable z = Due.at("who a 1;who b 1;kind p opens;");
         is("27: it ends where there is none", 2, z.drawn(9, 3));
     }
@@ -582,6 +589,50 @@ final class PromisesTest {
         is("31: b keeps it", NONE, z.game(1 << A, 1, 8, 4));
         is("31: b has no other WORD", 2, z.game(1 << A, 1, 5, 4));
         is("29: together they can", 2, z.road(1, 5, 4));
+    }
+
+    /** 12 to the 5th are not too many, 12 to the 6th are; up to 4 to the 8th. */
+    private static void bounds() {
+        CombTable x = Due.at("who a 1;who b 1;who c 1;kind p begins;kind q begins asks;kind r;kind s grants 9;may s q;");
+        is("29: 248832 ways", 5, x.road(4, 0, 5));
+        is("29: TOO MANY", -2, x.road(4, 0, 6));
+        is("30: 248832 ways", 5, x.without(B, 4, 0, 5));
+        is("30: TOO MANY", -2, x.without(B, 4, 0, 6));
+        x.say(A, 1);
+        is("31: 248832 ways", NONE, x.game(1 << B, 0, 2, 5));
+        is("31: TOO MANY", -2, x.game(1 << B, 0, 2, 6));
+        x.image(0);
+        is("33: 248832 ways", 0, x.unlike(0, 5));
+        is("33: TOO MANY", -2, x.unlike(0, 6));
+        CombTable y = Due.at("who a 1;who b 1;kind p opens asks;kind q grants 1;may q p;may p q;may p p;comb 1;");
+        is("29: 8 WORDS", 8, y.road(7, 1, 8));
+        is("30: 8 WORDS", NONE, y.without(A, 7, 1, 8));
+        y.say(A, 0);
+        is("31: 8 WORDS", NONE, y.game(1 << A, 0, 2, 8));
+        is("31: 8 WORDS", 1, y.game(1 << B, 0, 2, 8));
+        CombTable one = Due.at("who a 1;kind p begins;twice;");
+        one.image(0);
+        is("33: one way", 0, one.unlike(0, 6));
+        is("29: one way", 8, one.road(7, 0, 8));
+    }
+
+    /** What is looked for in minutes starts from no WORDS, whatever has been read ahead of it. */
+    private static void afterTalks() {
+        String table = "who a 1;who b 1;kind p opens;kind q;may q p;comb 1;";
+        for (int i = 0; i < 6; i++) {
+            CombTable x = Due.at(table);
+            x.image(0);
+            is("19: minutes", 2, Due.minutes(x, "a p;b q;"));
+            is("12: talk", i % 2 == 0 ? 1 : -1 - 5, Due.talk(x, i % 2 == 0 ? "a p;" : "a p; a q;"));
+            int got = i == 0 ? x.wholes(0) : i == 1 ? x.hangs() : i == 2 ? x.mend() : i == 3 ? x.orders()
+                : i == 4 ? x.unlike(0, 3) : x.mend();
+            is("after a talk, " + i, new int[] {1, 0, 0, 1, 0, 0}[i], got);
+            is("38: the TALK stays", i % 2 == 0 ? 1 : 0, x.count(6));
+        }
+        CombTable y = Due.at(table);
+        is("19: minutes", 2, Due.minutes(y, "a p;b q;"));
+        is("12: talk", 1, Due.talk(y, "b p;"));
+        is("25: orders", 1, y.orders());
     }
 
     /** The farthest that a WORD may ANSWER: the next one, six behind, is the last that does. */
@@ -743,6 +794,8 @@ final class PromisesTest {
         roads();
         games();
         farthest();
+        bounds();
+        afterTalks();
         unlikes();
         sentences();
         images();
