@@ -936,13 +936,14 @@ public final class CombTable {
         final int[] states;
 
         Talk(int most) {
+            int room = Math.max(most, 0);
             table = new Table();
-            speakers = new int[most];
-            sorts = new int[most];
-            heard = new int[most];
-            lines = new int[most];
-            depths = new int[most];
-            states = new int[most];
+            speakers = new int[room];
+            sorts = new int[room];
+            heard = new int[room];
+            lines = new int[room];
+            depths = new int[room];
+            states = new int[room];
         }
 
         void begin(Table at) {
