@@ -1626,6 +1626,8 @@ public final class CombTable {
     private static final class Wholes {
         static final int MOST = 20000;
         static final int MOST_TORN = 100000;
+        /** More than there can be of one row of minutes, or of all that are left out or exchanged. */
+        static final int NO_END = 1000000;
 
         int size;
         final int[] whos = new int[Minutes.MOST];
@@ -1706,7 +1708,7 @@ public final class CombTable {
             telling = tells;
             size = 0;
             filled = 0;
-            enough = Integer.MAX_VALUE - 1;
+            enough = NO_END;
         }
 
         /** The WORDS of the minutes, but the one that is left out (NONE: none is). */
