@@ -56,52 +56,29 @@ final class Bound {
         check("the document says so", true, DOC.isEmpty() || section(where).contains(words));
     }
 
+    /** Numbers, texts and truths are compared as they are written. */
     private static void check(String call, Object want, Object got) {
-        boolean same = want.equals(got);
+        boolean same = String.valueOf(want).equals(String.valueOf(got));
         if (!same) {
             BROKEN.add(sentence);
         }
         Due.is(sentence + "\n  " + call + " answered " + got + ", due is " + want + "; as due", true, same);
     }
 
-    static void in(String call, long want, long got) {
+    static void in(String call, Object want, Object got) {
         check("just inside: " + call, want, got);
     }
 
-    static void in(String call, boolean want, boolean got) {
-        check("just inside: " + call, want, got);
-    }
-
-    static void in(String call, String want, String got) {
-        check("just inside: " + call, want, got);
-    }
-
-    static void at(String call, long want, long got) {
+    static void at(String call, Object want, Object got) {
         check("at: " + call, want, got);
     }
 
-    static void at(String call, boolean want, boolean got) {
-        check("at: " + call, want, got);
-    }
-
-    static void at(String call, String want, String got) {
-        check("at: " + call, want, got);
-    }
-
-    static void beyond(String call, long want, long got) {
-        check("just beyond: " + call, want, got);
-    }
-
-    static void beyond(String call, boolean want, boolean got) {
-        check("just beyond: " + call, want, got);
-    }
-
-    static void beyond(String call, String want, String got) {
+    static void beyond(String call, Object want, Object got) {
         check("just beyond: " + call, want, got);
     }
 
     /** What leads up to a boundary. */
-    static void first(String call, long want, long got) {
+    static void first(String call, Object want, Object got) {
         check("first: " + call, want, got);
     }
 

@@ -17,6 +17,8 @@ final class RulesTest {
         "wrong", "may", "undo", "talk", "why", "word", "threads", "thread", "with", "promised", "minutes", "wholes",
         "sure", "hangs", "mend", "mended", "orders", "orderAt", "drawn", "spoke", "road", "without", "game", "found",
         "unlike", "sentence", "said", "image", "restore", "count");
+    private static final List<String> LIBRARY = Arrays.asList("Integer.bitCount", "Math.max", "Math.min",
+        "System.arraycopy");
     private static final String[] BANNED = {"->", "::", "\\bimport (?!java\\.util\\.NoSuchElementException;)",
         "\\btry\\b", "\\bcatch\\b", "\\bfinally\\b", "\\bsynchronized\\b", "\\bassert\\b", "\\bThread\\.", "\\bclass\\s+\\w+\\s*\\{.*\\bstatic\\s*\\{",
         "\\.equals\\(", "hashCode", "toString", "Exact\\(", "System\\.(?!arraycopy)", "\\bnew \\w+\\[.*\\]\\s*\\{",
@@ -68,6 +70,11 @@ final class RulesTest {
         for (String banned : BANNED) {
             Matcher matcher = Pattern.compile(banned).matcher(bare);
             Due.is("nothing like " + banned, 0, matcher.find() ? 1 : 0);
+        }
+        Matcher library = Pattern.compile("\\b(Byte|Short|Character|Integer|Long|Math|System|Arrays|List|Object)\\b(\\.\\w+)?")
+            .matcher(bare);
+        while (library.find()) {
+            Due.is("the library has " + library.group(), true, LIBRARY.contains(library.group()));
         }
         int length = 0;
         for (String line : bare.split("\n")) {
